@@ -12,7 +12,8 @@ public final class ChoosingTest {
         leastIsNotRounded();
         ring();
         ringAmongReadyOnly();
-        ringOfOnePoint();
+        ringOfSharedPoints();
+        everyPointOfTheRing();
         home();
         homeLeavesCredits();
         homeNotReady();
@@ -159,8 +160,23 @@ public final class ChoosingTest {
         C.due("first point of a ready one", x.about(1, 0), 0);
     }
 
-    /** With weights up to 9 no two servers share a point; each point still belongs to its own server. */
-    private static void ringOfOnePoint() {
+    /** Servers 0 and 4 share points: (0 * 37 + 4 * 101 + 17) * 59 and (4 * 37 + 17) * 59 are 7 modulo 256. */
+    private static void ringOfSharedPoints() {
+        RelayDesk x = Checks.desk(17);
+        x.set(0, 2);
+        x.server(0, 5, 1, 1);
+        x.server(4, 1, 8, 1);
+        x.arrive(0, 0, 7, 9, 0);
+        C.due("of several there the least server", x.about(0, 0), 0);
+        x.arrive(0, 0, 7, 9, 0);
+        C.due("of several the ready one", x.about(1, 0), 4);
+        x.server(0, 4, 8, 1);
+        x.arrive(0, 0, 7, 9, 0);
+        C.due("as many points as the weight", x.about(2, 0), 4);
+    }
+
+    /** With every server of weight 9 each point belongs to the least server that has it. */
+    private static void everyPointOfTheRing() {
         for (int s = 0; s < 6; s++) {
             RelayDesk x = Checks.desk(63);
             x.set(0, 2);
