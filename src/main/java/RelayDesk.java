@@ -509,10 +509,10 @@ public final class RelayDesk {
             return false;
         }
         int ready = readyAmong(routeServers[r], q);
-        if (ready == 0) {
+        int s = choose(ready, q);
+        if (s == NONE) {
             return false;
         }
-        int s = choose(ready, q);
         // How the attempt will run is settled here, as later changes of pace and TIMEOUT are for what comes.
         int units = workOf[q] * paceOf[s];
         attemptTooLong[q] = units > settings[TIMEOUT];
@@ -542,6 +542,7 @@ public final class RelayDesk {
         return shutTill[s] == CLOSED || shutTill[s] <= now && running[s] == 0;
     }
 
+    /** One of the servers that are ready, or NONE if none is. */
     private int choose(int ready, int q) {
         int client = clientOf[q];
         int h = homeServer[client];
@@ -557,22 +558,20 @@ public final class RelayDesk {
     }
 
     private int chooseByTurns(int ready) {
-        int chosen = 0;
-        int best = 0;
+        int chosen = NONE;
         int sum = 0;
-        boolean found = false;
         for (int s = 0; s < SERVERS; s++) {
             if ((ready >> s & 1) != 0) {
                 credit[s] += weightOf[s];
                 sum += weightOf[s];
-                if (!found || credit[s] > best) {
-                    found = true;
+                if (chosen == NONE || credit[s] > credit[chosen]) {
                     chosen = s;
-                    best = credit[s];
                 }
             }
         }
-        credit[chosen] -= sum;
+        if (chosen != NONE) {
+            credit[chosen] -= sum;
+        }
         return chosen;
     }
 
@@ -585,11 +584,11 @@ public final class RelayDesk {
                 chosen = s;
             }
         }
-        return chosen == NONE ? 0 : chosen;
+        return chosen;
     }
 
     private int chooseOnRing(int ready, int key) {
-        int chosen = 0;
+        int chosen = NONE;
         int nearest = 256;
         for (int s = 0; s < SERVERS; s++) {
             if ((ready >> s & 1) != 0) {

@@ -43,6 +43,10 @@ public final class AnswersTest {
         C.due("P12 request 1 likewise", x.about(1, 1), -2);
         C.due("P12 request 2 likewise", x.about(2, 1), 0);
         C.due("P12 the next likewise", x.about(34, 1), -2);
+        int[] due = {-1, 0, 4, 4};
+        for (int what = 0; what < 4; what++) {
+            C.due("P12 nothing of request 0 is left in request 32", x.about(32, what), due[what]);
+        }
     }
 
     private static void about() {

@@ -11,6 +11,8 @@ public final class ChoosingTest {
         least();
         leastIsNotRounded();
         ring();
+        ringGoesAllRound();
+        policiesFollowOneAnother();
         ringAmongReadyOnly();
         ringOfSharedPoints();
         everyPointOfTheRing();
@@ -146,6 +148,29 @@ public final class ChoosingTest {
         for (int k = 0; k < moreKeys.length; k++) {
             y.arrive(0, 0, moreKeys[k], 1, 0);
             C.due("ring with more points, key " + moreKeys[k], y.about(k, 0), moreServers[k]);
+        }
+    }
+
+    private static void ringGoesAllRound() {
+        RelayDesk x = Checks.desk(1);
+        x.set(0, 2);
+        x.server(0, 1, 8, 1);
+        x.arrive(0, 0, 236, 1, 0);
+        C.due("the only point is the last one", x.about(0, 0), 0);
+        x.arrive(0, 0, 235, 1, 0);
+        C.due("the only point is the key", x.about(1, 0), 0);
+    }
+
+    private static void policiesFollowOneAnother() {
+        RelayDesk x = Checks.desk(3);
+        x.server(0, 1, 8, 1);
+        x.server(1, 2, 8, 1);
+        int[] policies = {2, 0, 1, 0, 2, 0};
+        int[] servers = {0, 1, 1, 0, 0, 1};
+        for (int k = 0; k < 6; k++) {
+            x.set(0, policies[k]);
+            x.arrive(0, 0, 200, 9, 0);
+            C.due("policy " + policies[k], x.about(k, 0), servers[k]);
         }
     }
 

@@ -8,10 +8,12 @@ public final class ConfigurationTest {
         serverLeavesRunningAttempts();
         serverRefusedChangesNothing();
         routeNumbers();
+        everyPath();
         routeCountsAndReplaces();
         routeFull();
         longestPathWins();
         unroute();
+        unrouteLeavesTheOthers();
         damage();
         setRanges();
         setFirstValues();
@@ -104,6 +106,15 @@ public final class ConfigurationTest {
         C.due("P3 route(07777, 1)", x.route(07777, 1), 7);
     }
 
+    private static void everyPath() {
+        for (int path = -20; path < 5000; path++) {
+            String row = path <= 0 ? "" : Integer.toOctalString(path);
+            boolean good = path >= 0 && row.length() <= 4 && !row.contains("0");
+            C.due("P3 route(" + path + ", 1)", new RelayDesk().route(path, 1), good ? 1 : -1);
+            C.due("P9 arrive with path " + path, new RelayDesk().arrive(0, path, 0, 1, 0), good ? 0 : -1);
+        }
+    }
+
     private static void routeCountsAndReplaces() {
         RelayDesk x = Checks.desk(1);
         x.server(0, 1, 1, 1);
@@ -189,6 +200,21 @@ public final class ConfigurationTest {
         C.due("P4 a running request goes on", x.state(3), 2);
         C.due("P4 it expires", x.advance(80), 1);
         C.due("P4 it expires", x.state(4), 4);
+    }
+
+    private static void unrouteLeavesTheOthers() {
+        for (int gone = 1; gone <= 4; gone++) {
+            RelayDesk x = Checks.desk(1);
+            for (int s = 0; s < 5; s++) {
+                x.server(s, 1, 8, 1);
+                x.route(s, 1 << s);
+            }
+            x.unroute(gone);
+            for (int path = 0; path < 5; path++) {
+                x.arrive(0, path, 0, 1, 0);
+                C.due("P4 unroute(" + gone + "), path " + path, x.about(path, 0), path == gone ? 0 : path);
+            }
+        }
     }
 
     private static void damage() {

@@ -14,6 +14,7 @@ public final class PassingTimeTest {
         checksComeAfterAttempts();
         checksComeBeforeTheQueue();
         expiry();
+        expiryLeavesTheOrder();
         expiryComesBeforeTheQueue();
         queueIsGoneThroughInItsOrder();
         C.end();
@@ -248,6 +249,20 @@ public final class PassingTimeTest {
         C.due("a running one does not expire", y.advance(9), 0);
         C.due("it is done", y.advance(1), 1);
         C.due("it is done", y.state(0), 2);
+    }
+
+    private static void expiryLeavesTheOrder() {
+        RelayDesk x = Checks.desk(1);
+        x.set(5, 4);
+        x.arrive(0, 0, 0, 1, 3);
+        x.arrive(0, 0, 0, 1, 1);
+        x.advance(1);
+        x.arrive(0, 0, 0, 1, 2);
+        x.arrive(0, 0, 0, 1, 0);
+        C.due("the first and the third of the queue", x.advance(3), 2);
+        C.due("left 0", x.queued(0), 2);
+        C.due("left 1", x.queued(1), 3);
+        C.due("left 2", x.queued(2), -1);
     }
 
     private static void expiryComesBeforeTheQueue() {
