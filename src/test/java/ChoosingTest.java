@@ -10,6 +10,7 @@ public final class ChoosingTest {
         turnsOfEqualCredit();
         least();
         leastIsNotRounded();
+        leastAmongReadyOnly();
         ring();
         ringGoesAllRound();
         policiesFollowOneAnother();
@@ -121,6 +122,19 @@ public final class ChoosingTest {
         for (int k = 0; k < 8; k++) {
             x.arrive(0, 0, 0, 9, 0);
             C.due("quotient " + k, x.about(k, 0), servers[k]);
+        }
+    }
+
+    private static void leastAmongReadyOnly() {
+        RelayDesk x = Checks.desk(6);
+        x.set(0, 1);
+        x.server(0, 9, 8, 1);
+        x.server(1, 9, 1, 1);
+        x.server(2, 1, 8, 1);
+        int[] servers = {1, 2, 2};
+        for (int k = 0; k < 3; k++) {
+            x.arrive(0, 0, 0, 9, 0);
+            C.due("least of those that are ready " + k, x.about(k, 0), servers[k]);
         }
     }
 
