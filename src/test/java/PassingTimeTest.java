@@ -4,7 +4,6 @@ public final class PassingTimeTest {
 
     public static void main(String[] args) {
         advanceNumbers();
-        latestTime();
         countsDoneFailedExpired();
         firstBucket();
         attemptsEndInTheOrderOfRequests();
@@ -33,24 +32,6 @@ public final class PassingTimeTest {
         C.due("P8 advance(5000)", x.time(), 5000);
         C.due("P8 advance(1)", x.advance(1), 0);
         C.due("P10 time", x.time(), 5001);
-    }
-
-    /** No run of 512 calls comes there, so a field is set to look at the limit all the same. */
-    private static void latestTime() {
-        try {
-            RelayDesk x = new RelayDesk();
-            java.lang.reflect.Field now = RelayDesk.class.getDeclaredField("now");
-            now.setAccessible(true);
-            now.setInt(x, 999999998);
-            C.due("P8 beyond the latest time", x.advance(3), -1);
-            C.due("P8 beyond the latest time", x.advance(5000), -1);
-            C.due("P8 to the latest time", x.advance(2), 0);
-            C.due("P8 the latest time", x.time(), 1000000000);
-            C.due("P8 no further", x.advance(1), -1);
-            C.due("P8 none", x.advance(0), 0);
-        } catch (ReflectiveOperationException e) {
-            C.due("the field now is there", false, true);
-        }
     }
 
     private static void countsDoneFailedExpired() {
