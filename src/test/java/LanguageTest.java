@@ -1,22 +1,51 @@
+import com.sun.source.tree.ArrayTypeTree;
+import com.sun.source.tree.AssertTree;
+import com.sun.source.tree.AssignmentTree;
+import com.sun.source.tree.BinaryTree;
+import com.sun.source.tree.ClassTree;
+import com.sun.source.tree.CompilationUnitTree;
+import com.sun.source.tree.DoWhileLoopTree;
+import com.sun.source.tree.ExpressionTree;
+import com.sun.source.tree.ForLoopTree;
+import com.sun.source.tree.IdentifierTree;
+import com.sun.source.tree.InstanceOfTree;
+import com.sun.source.tree.LambdaExpressionTree;
+import com.sun.source.tree.LineMap;
+import com.sun.source.tree.LiteralTree;
+import com.sun.source.tree.MemberReferenceTree;
+import com.sun.source.tree.MemberSelectTree;
+import com.sun.source.tree.MethodInvocationTree;
+import com.sun.source.tree.MethodTree;
+import com.sun.source.tree.NewArrayTree;
+import com.sun.source.tree.NewClassTree;
+import com.sun.source.tree.PrimitiveTypeTree;
+import com.sun.source.tree.SynchronizedTree;
+import com.sun.source.tree.ThrowTree;
+import com.sun.source.tree.Tree;
+import com.sun.source.tree.TryTree;
+import com.sun.source.tree.TypeCastTree;
+import com.sun.source.tree.VariableTree;
+import com.sun.source.tree.WhileLoopTree;
+import com.sun.source.util.JavacTask;
+import com.sun.source.util.SourcePositions;
+import com.sun.source.util.TreeScanner;
+import com.sun.source.util.Trees;
 import java.io.IOException;
-import java.lang.reflect.Constructor;
-import java.lang.reflect.Field;
 import java.lang.reflect.Method;
 import java.lang.reflect.Modifier;
-import java.nio.file.Files;
 import java.nio.file.Path;
-import java.util.ArrayList;
 import java.util.HashMap;
 import java.util.HashSet;
-import java.util.List;
 import java.util.Map;
 import java.util.Set;
 import java.util.TreeSet;
-import java.util.regex.Matcher;
-import java.util.regex.Pattern;
+import javax.lang.model.type.TypeKind;
+import javax.tools.JavaCompiler;
+import javax.tools.StandardJavaFileManager;
+import javax.tools.ToolProvider;
 
-/** The rules of LANGUAGE.md that can be seen in the class's members and in the text of its source. */
-public final class LanguageTest {
+/** The rules of LANGUAGE.md that can be seen in the class's members and in the tree that javac makes of its source. */
+public final class LanguageTest extends TreeScanner<Void, Void> {
     private static final Checks C = new Checks();
     private static final Path SOURCE = Path.of("src/main/java/RelayDesk.java");
     private static final Set<String> FACE = Set.of(
@@ -24,157 +53,324 @@ public final class LanguageTest {
         "boolean damage(int,boolean)", "boolean set(int,int)", "boolean limit(int,int,int)", "int advance(int)",
         "int arrive(int,int,int,int,int)", "int time()", "int state(int)", "int about(int,int)", "int at(int,int)",
         "int tokens(int)", "int queued(int)", "long total(int)", "int took(int)", "int home(int)");
-    private static final Pattern HEADER = Pattern.compile("^    (?:public|private)[\\w\\[\\] ]* (\\w+)\\((.*)\\) \\{$");
-    private static final Pattern CALL = Pattern.compile("\\b([a-z]\\w*)\\(");
-    private static final Set<String> NOT_CALLS = Set.of("if", "for", "while", "switch", "return");
+    // The rules say "some sixty" and "some forty".
+    private static final int LINES = 64;
+    private static final int FIELDS = 44;
+    private static final int DEPTH = 6;
 
-    private static final Map<String, Set<String>> calls = new HashMap<>();
+    private final Map<String, Set<String>> calls = new HashMap<>();
+    private final Set<String> methods = new HashSet<>();
+    private final Set<String> arrays = new HashSet<>();
+    private final Set<String> constants = new HashSet<>();
+    private final CompilationUnitTree unit;
+    private final SourcePositions positions;
+    private String method = "";
+    private int nested;
+    private int insideArguments;
+
+    private LanguageTest(CompilationUnitTree unit, SourcePositions positions) {
+        this.unit = unit;
+        this.positions = positions;
+    }
 
     public static void main(String[] args) throws IOException {
-        members();
-        String text = Files.readString(SOURCE).replaceAll("(?s)/\\*.*?\\*/", "").replaceAll("//[^\n]*", "");
-        words(text);
-        arraysAreFields(text);
-        methods(text);
-        for (String method : calls.keySet()) {
-            C.due("rule 10: calls go at most six deep from " + method, depth(method, new ArrayList<>()) <= 6, true);
+        face();
+        JavaCompiler compiler = ToolProvider.getSystemJavaCompiler();
+        try (StandardJavaFileManager files = compiler.getStandardFileManager(null, null, null)) {
+            JavacTask task = (JavacTask) compiler.getTask(null, files, null, null, null,
+                files.getJavaFileObjects(SOURCE));
+            CompilationUnitTree unit = task.parse().iterator().next();
+            new LanguageTest(unit, Trees.instance(task).getSourcePositions()).look();
         }
         C.end();
     }
 
-    private static void members() {
+    private static void face() {
         Class<RelayDesk> type = RelayDesk.class;
         C.due("rule 1: public and final", type.getModifiers(), Modifier.PUBLIC | Modifier.FINAL);
-        C.due("rule 1: nested classes", type.getDeclaredClasses().length, 0);
-        C.due("rule 1: no package", type.getPackageName().isEmpty(), true);
-        Constructor<?>[] constructors = type.getDeclaredConstructors();
-        C.due("rule 1: constructors", constructors.length, 1);
-        C.due("rule 1: constructor is public", constructors[0].getModifiers(), Modifier.PUBLIC);
-        C.due("rule 1: constructor's parameters", constructors[0].getParameterCount(), 0);
+        C.due("rule 1: constructors", type.getDeclaredConstructors().length, 1);
+        C.due("rule 1: the constructor is public", type.getDeclaredConstructors()[0].getModifiers(), Modifier.PUBLIC);
+        C.due("rule 1: the constructor's parameters", type.getDeclaredConstructors()[0].getParameterCount(), 0);
         Set<String> face = new TreeSet<>();
-        Set<String> publicNames = new HashSet<>();
+        Set<String> names = new HashSet<>();
         for (Method m : type.getDeclaredMethods()) {
             if (!Modifier.isPrivate(m.getModifiers())) {
-                face.add(signature(m));
-                publicNames.add(m.getName());
+                StringBuilder types = new StringBuilder();
+                for (Class<?> t : m.getParameterTypes()) {
+                    types.append(types.length() == 0 ? "" : ",").append(t.getName());
+                }
+                face.add(m.getReturnType().getName() + " " + m.getName() + "(" + types + ")");
+                names.add(m.getName());
                 C.due("rule 1: modifiers of " + m.getName(), m.getModifiers(), Modifier.PUBLIC);
             }
-            C.due("rule 2: answer of " + m.getName(), isNumber(m.getReturnType()), true);
         }
         C.due("rule 1: the public methods " + face, face.equals(FACE), true);
         for (Method m : type.getDeclaredMethods()) {
-            if (Modifier.isPrivate(m.getModifiers())) {
-                C.due("rule 1: private " + m.getName(), publicNames.contains(m.getName()), false);
-            }
-            C.due("rule 10: parameters of " + m.getName(), m.getParameterCount() <= 7, true);
+            boolean hidden = Modifier.isPrivate(m.getModifiers());
+            C.due("rule 1: private " + m.getName(), hidden && names.contains(m.getName()), false);
         }
-        fields(type.getDeclaredFields());
-    }
-
-    private static void fields(Field[] all) {
-        int count = 0;
-        Set<String> constants = new TreeSet<>();
-        for (Field f : all) {
-            Class<?> type = f.getType();
-            if (Modifier.isStatic(f.getModifiers())) {
-                C.due("rule 5: " + f.getName(), type == int.class || type == long.class, true);
-                C.due("rule 5: final " + f.getName(), Modifier.isFinal(f.getModifiers()), true);
-            } else {
-                count++;
-                C.due("rule 2: " + f.getName(), isNumber(type.isArray() ? type.getComponentType() : type), true);
-            }
+        Set<String> fields = new TreeSet<>();
+        for (java.lang.reflect.Field f : type.getDeclaredFields()) {
             if (!Modifier.isPrivate(f.getModifiers())) {
-                constants.add(f.getName());
+                fields.add(f.getName());
             }
         }
-        C.due("rule 1: public constants " + constants,
-            constants.equals(new TreeSet<>(Set.of("REFUSED", "FULL", "LIMITED"))), true);
-        C.due("rule 10: some forty fields, " + count, count <= 40, true);
+        C.due("rule 1: the public constants " + fields, fields.equals(Set.of("REFUSED", "FULL", "LIMITED")), true);
     }
 
-    private static String signature(Method m) {
-        List<String> types = new ArrayList<>();
-        for (Class<?> t : m.getParameterTypes()) {
-            types.add(t.getName());
-        }
-        return m.getReturnType().getName() + " " + m.getName() + "(" + String.join(",", types) + ")";
-    }
-
-    private static boolean isNumber(Class<?> type) {
-        return type.isPrimitive() && type != float.class && type != double.class;
-    }
-
-    private static void words(String text) {
-        String[] forbidden = {"import", "package", "null", "throw", "throws", "try", "catch", "synchronized", "assert",
-            "instanceof", "float", "double", "String", "Math", "Integer", "Long", "System", "Arrays", "Object", "var",
-            "class .*class", "interface", "enum", "record", "protected", "static \\{"};
-        for (String word : forbidden) {
-            C.due("rules 1 to 6: the word " + word, Pattern.compile("\\b" + word + "\\b").matcher(text).find(), false);
-        }
-        for (String sign : new String[] {"->", "::", "\"", "'", "@"}) {
-            C.due("rules 2 to 6: the sign " + sign, text.contains(sign), false);
-        }
-    }
-
-    private static void arraysAreFields(String text) {
-        Pattern made = Pattern.compile("^    private final (\\w+)\\[\\] \\w+ = new \\1\\[[A-Z]+\\];$");
-        for (String line : text.split("\n")) {
-            if (line.matches(".*\\bnew\\b.*")) {
-                C.due("rule 4: " + line.trim(), made.matcher(line).matches(), true);
-            }
-        }
-    }
-
-    private static void methods(String text) {
-        String name = "";
-        int from = 0;
-        String[] lines = text.split("\n");
-        Set<String> own = new HashSet<>();
-        for (int k = 0; k < lines.length; k++) {
-            Matcher header = HEADER.matcher(lines[k]);
-            if (header.matches()) {
-                name = header.group(1);
-                from = k;
-                own = new TreeSet<>();
-                calls.put(name, own);
+    private void look() {
+        C.due("rule 1: a package line", unit.getPackageName() == null, true);
+        C.due("rule 3: imports", unit.getImports().size(), 0);
+        C.due("rule 1: classes", unit.getTypeDecls().size(), 1);
+        ClassTree type = (ClassTree) unit.getTypeDecls().get(0);
+        int fields = 0;
+        for (Tree member : type.getMembers()) {
+            if (member instanceof VariableTree) {
+                fields += field((VariableTree) member);
+            } else if (member instanceof MethodTree) {
+                methods.add(((MethodTree) member).getName().toString());
             } else {
-                Matcher call = CALL.matcher(lines[k]);
-                while (call.find()) {
-                    if (!NOT_CALLS.contains(call.group(1))) {
-                        own.add(call.group(1));
-                        String rest = argumentsAt(lines[k], call.end());
-                        C.due("rule 10: a call in the arguments of " + call.group(1) + " in " + name,
-                            CALL.matcher(rest).find(), false);
-                    }
-                }
-            }
-            if (lines[k].equals("    }")) {
-                C.due("rule 10: length of " + name, k - from + 1 <= 60, true);
+                C.due("rules 1 and 5: a member that is neither field nor method", true, false);
             }
         }
-        C.due("methods were found", calls.size(), RelayDesk.class.getDeclaredMethods().length + 1);
-    }
-
-    private static String argumentsAt(String line, int from) {
-        int depth = 1;
-        int to = from;
-        while (to < line.length() && depth > 0) {
-            depth += line.charAt(to) == '(' ? 1 : line.charAt(to) == ')' ? -1 : 0;
-            to++;
+        C.due("rule 10: " + fields + " fields", fields <= FIELDS, true);
+        for (Tree member : type.getMembers()) {
+            method = "";
+            scan(member, null);
         }
-        return line.substring(from, to);
+        for (String name : calls.keySet()) {
+            C.due("rule 10: calls go at most six deep from " + name, depth(name, new HashSet<>()) <= DEPTH, true);
+        }
     }
 
-    private static int depth(String method, List<String> above) {
-        C.due("rules 3 and 8: " + method + " is the class's own", calls.containsKey(method), true);
-        C.due("rule 8: recursion in " + method, above.contains(method), false);
-        if (above.contains(method) || !calls.containsKey(method)) {
+    private int field(VariableTree v) {
+        String name = v.getName().toString();
+        boolean isStatic = v.getModifiers().getFlags().contains(javax.lang.model.element.Modifier.STATIC);
+        if (!isStatic) {
+            if (v.getType() instanceof ArrayTypeTree) {
+                arrays.add(name);
+            }
             return 1;
         }
-        List<String> path = new ArrayList<>(above);
-        path.add(method);
+        boolean isFinal = v.getModifiers().getFlags().contains(javax.lang.model.element.Modifier.FINAL);
+        C.due("rule 5: " + name + " is final", isFinal, true);
+        C.due("rule 5: " + name + " is int or long", v.getType() instanceof PrimitiveTypeTree
+            && Set.of(TypeKind.INT, TypeKind.LONG).contains(((PrimitiveTypeTree) v.getType()).getPrimitiveTypeKind()),
+            true);
+        constants.add(name);
+        return 0;
+    }
+
+    private String at(Tree tree) {
+        LineMap lines = unit.getLineMap();
+        return " in line " + lines.getLineNumber(positions.getStartPosition(unit, tree)) + ": ";
+    }
+
+    private void never(String rule, Tree tree) {
+        C.due(rule + at(tree) + tree, true, false);
+    }
+
+    private boolean isNumber(Tree type) {
+        return type instanceof PrimitiveTypeTree && !Set.of(TypeKind.FLOAT, TypeKind.DOUBLE, TypeKind.VOID)
+            .contains(((PrimitiveTypeTree) type).getPrimitiveTypeKind());
+    }
+
+    @Override
+    public Void visitVariable(VariableTree v, Void p) {
+        Tree type = v.getType() instanceof ArrayTypeTree ? ((ArrayTypeTree) v.getType()).getType() : v.getType();
+        C.due("rule 2: the type of " + v.getName(), isNumber(type), true);
+        return super.visitVariable(v, p);
+    }
+
+    @Override
+    public Void visitMethod(MethodTree m, Void p) {
+        method = m.getName().toString();
+        calls.computeIfAbsent(method, name -> new TreeSet<>());
+        Tree answer = m.getReturnType();
+        boolean nothing = answer == null || answer instanceof PrimitiveTypeTree
+            && ((PrimitiveTypeTree) answer).getPrimitiveTypeKind() == TypeKind.VOID;
+        C.due("rules 2 and 4: what " + method + " answers", nothing || isNumber(answer), true);
+        C.due("rule 6: " + method + " throws", m.getThrows().size(), 0);
+        C.due("rule 10: parameters of " + method, m.getParameters().size() <= 7, true);
+        LineMap lines = unit.getLineMap();
+        long length = lines.getLineNumber(positions.getEndPosition(unit, m))
+            - lines.getLineNumber(positions.getStartPosition(unit, m)) + 1;
+        C.due("rule 10: " + method + " has " + length + " lines", length <= LINES, true);
+        return super.visitMethod(m, p);
+    }
+
+    @Override
+    public Void visitMethodInvocation(MethodInvocationTree call, Void p) {
+        C.due("rule 10: a call inside the arguments of another" + at(call) + call, insideArguments, 0);
+        ExpressionTree name = call.getMethodSelect();
+        if (name instanceof IdentifierTree && !name.toString().equals("super")) {
+            C.due("rule 3: the class's own method" + at(call) + call, methods.contains(name.toString()), true);
+            calls.get(method).add(name.toString());
+        } else if (!name.toString().equals("super")) {
+            never("rule 3: a call", call);
+        }
+        insideArguments++;
+        scan(call.getArguments(), p);
+        insideArguments--;
+        return null;
+    }
+
+    @Override
+    public Void visitMemberSelect(MemberSelectTree select, Void p) {
+        boolean ofThis = select.getExpression().toString().equals("this");
+        boolean lengthOfArray = select.getIdentifier().contentEquals("length");
+        C.due("rules 2 and 3: " + select + at(select), ofThis || lengthOfArray, true);
+        return super.visitMemberSelect(select, p);
+    }
+
+    @Override
+    public Void visitNewArray(NewArrayTree made, Void p) {
+        C.due("rule 4: made in a field or in the constructor" + at(made), method.isEmpty() || method.equals("<init>"),
+            true);
+        C.due("rule 4: made neither in a loop nor behind a condition" + at(made), nested, 0);
+        boolean one = made.getInitializers() == null && made.getDimensions().size() == 1;
+        C.due("rule 4: one length" + at(made), one, true);
+        if (one) {
+            ExpressionTree length = made.getDimensions().get(0);
+            boolean literal = length instanceof LiteralTree && ((LiteralTree) length).getValue() instanceof Integer
+                && (Integer) ((LiteralTree) length).getValue() >= 1;
+            C.due("rule 4: the length is a literal or a constant" + at(made),
+                literal || constants.contains(length.toString()), true);
+        }
+        return super.visitNewArray(made, p);
+    }
+
+    @Override
+    public Void visitAssignment(AssignmentTree set, Void p) {
+        boolean ofArray = arrays.contains(set.getVariable().toString().replace("this.", ""));
+        C.due("rule 4: an array field is set" + at(set), ofArray && !method.equals("<init>"), false);
+        return super.visitAssignment(set, p);
+    }
+
+    @Override
+    public Void visitBinary(BinaryTree two, Void p) {
+        boolean ofArrays = arrays.contains(two.getLeftOperand().toString())
+            || arrays.contains(two.getRightOperand().toString());
+        C.due("rule 4: an array is compared" + at(two), ofArrays, false);
+        return super.visitBinary(two, p);
+    }
+
+    @Override
+    public Void visitLiteral(LiteralTree literal, Void p) {
+        Object value = literal.getValue();
+        boolean good = value instanceof Integer || value instanceof Long || value instanceof Boolean
+            || value instanceof Character;
+        C.due("rules 2 and 4: the literal " + literal + at(literal), good, true);
+        return null;
+    }
+
+    @Override
+    public Void visitTypeCast(TypeCastTree cast, Void p) {
+        C.due("rule 6: a cast" + at(cast) + cast, isNumber(cast.getType()), true);
+        return super.visitTypeCast(cast, p);
+    }
+
+    @Override
+    public Void visitForLoop(ForLoopTree loop, Void p) {
+        C.due("rule 8: a loop with a bound" + at(loop), loop.getCondition() != null, true);
+        return nest(() -> super.visitForLoop(loop, p));
+    }
+
+    @Override
+    public Void visitWhileLoop(WhileLoopTree loop, Void p) {
+        return nest(() -> super.visitWhileLoop(loop, p));
+    }
+
+    @Override
+    public Void visitDoWhileLoop(DoWhileLoopTree loop, Void p) {
+        return nest(() -> super.visitDoWhileLoop(loop, p));
+    }
+
+    @Override
+    public Void visitIf(com.sun.source.tree.IfTree test, Void p) {
+        return nest(() -> super.visitIf(test, p));
+    }
+
+    @Override
+    public Void visitSwitch(com.sun.source.tree.SwitchTree test, Void p) {
+        return nest(() -> super.visitSwitch(test, p));
+    }
+
+    @Override
+    public Void visitConditionalExpression(com.sun.source.tree.ConditionalExpressionTree test, Void p) {
+        return nest(() -> super.visitConditionalExpression(test, p));
+    }
+
+    private Void nest(Runnable visit) {
+        nested++;
+        visit.run();
+        nested--;
+        return null;
+    }
+
+    @Override
+    public Void visitNewClass(NewClassTree made, Void p) {
+        never("rule 4: an object is made", made);
+        return null;
+    }
+
+    @Override
+    public Void visitThrow(ThrowTree tree, Void p) {
+        never("rule 6", tree);
+        return null;
+    }
+
+    @Override
+    public Void visitTry(TryTree tree, Void p) {
+        never("rule 6", tree);
+        return null;
+    }
+
+    @Override
+    public Void visitSynchronized(SynchronizedTree tree, Void p) {
+        never("rule 6", tree);
+        return null;
+    }
+
+    @Override
+    public Void visitAssert(AssertTree tree, Void p) {
+        never("rule 6", tree);
+        return null;
+    }
+
+    @Override
+    public Void visitInstanceOf(InstanceOfTree tree, Void p) {
+        never("rule 6", tree);
+        return null;
+    }
+
+    @Override
+    public Void visitLambdaExpression(LambdaExpressionTree tree, Void p) {
+        never("rule 6", tree);
+        return null;
+    }
+
+    @Override
+    public Void visitMemberReference(MemberReferenceTree tree, Void p) {
+        never("rule 6", tree);
+        return null;
+    }
+
+    @Override
+    public Void visitClass(ClassTree tree, Void p) {
+        never("rule 1: a class inside a class", tree);
+        return null;
+    }
+
+    private int depth(String name, Set<String> above) {
+        C.due("rule 8: recursion in " + name, above.contains(name), false);
+        if (above.contains(name)) {
+            return 1;
+        }
+        Set<String> path = new HashSet<>(above);
+        path.add(name);
         int deepest = 0;
-        for (String callee : calls.get(method)) {
+        for (String callee : calls.getOrDefault(name, Set.of())) {
             deepest = Math.max(deepest, depth(callee, path));
         }
         return deepest + 1;

@@ -366,6 +366,12 @@ final class SentencesOfAnswers {
         y.arrive(0, 0, 0, 1, 0);
         y.advance(1);
         c.due("server 0 is a home", y.home(0), 0);
+        y.set(6, 1);
+        y.advance(100);
+        c.due("whatever STAY is", y.home(0), 0);
+        y.route(0, 0);
+        y.server(0, 0, 1, 1);
+        c.due("whatever is ready", y.home(0), 0);
     }
 
     private void refusedBeforeFull() {

@@ -138,6 +138,24 @@ final class SentencesOfChanges {
         c.due("faster from now on", x.server(0, 1, 1, 1), true);
         c.due("as long as it would have", x.advance(49), 0);
         c.due("as long as it would have", x.advance(1), 1);
+        RelayDesk y = Checks.desk(3);
+        y.server(0, 2, 8, 1);
+        y.server(1, 1, 8, 1);
+        y.damage(0, true);
+        y.damage(1, true);
+        for (int k = 0; k < 4; k++) {
+            y.arrive(0, 0, 0, 1, 0);
+        }
+        y.advance(1);
+        int[] before = new int[6];
+        for (int what = 0; what < 6; what++) {
+            before[what] = y.at(0, what);
+        }
+        c.due("its breaker is shut", before[2], 1);
+        y.server(0, 9, 1, 10);
+        for (int what = 0; what < 6; what++) {
+            c.due("nothing else of it changes, at(0, " + what + ")", y.at(0, what), before[what]);
+        }
     }
 
     private void routeMade() {
@@ -311,6 +329,21 @@ final class SentencesOfChanges {
         c.due("for what comes: the second ends by the new TIMEOUT", z.state(1), 3);
         z.advance(7);
         c.due("for what comes: the first had begun before", z.state(0), 2);
+        z.set(1, 5);
+        z.arrive(0, 0, 0, 8, 0);
+        z.set(1, 1000);
+        z.advance(5);
+        c.due("for what comes: this one had begun before", z.state(2), 3);
+        RelayDesk credits = Checks.desk(3);
+        credits.server(0, 1, 8, 1);
+        credits.server(1, 2, 8, 1);
+        credits.arrive(0, 0, 0, 1, 0);
+        for (int setting = 0; setting < 7; setting++) {
+            credits.set(setting, 1);
+        }
+        credits.set(0, 0);
+        c.due("credits stay", credits.at(0, 5), 1001);
+        c.due("credits stay", credits.at(1, 5), 999);
     }
 
     private void limit() {

@@ -246,6 +246,52 @@ final class SentencesOfRunning {
         y.server(1, 9, 8, 1);
         y.arrive(0, 0, 0, 1, 0);
         c.due("no home yet", y.about(0, 0), 1);
+        homeAtRetry();
+        homeFromTheQueue();
+        RelayDesk z = Checks.desk(1);
+        z.set(6, 5);
+        z.server(0, 1, 8, 1);
+        z.server(1, 9, 8, 1);
+        z.arrive(3, 0, 0, 1, 0);
+        z.advance(1);
+        z.route(0, 3);
+        z.damage(0, true);
+        z.arrive(3, 0, 0, 1, 0);
+        c.due("the home, though it is broken", z.about(1, 0), 0);
+        z.arrive(2, 0, 0, 1, 0);
+        c.due("not another client's home", z.about(2, 0), 1);
+    }
+
+    private void homeAtRetry() {
+        RelayDesk x = Checks.desk(4);
+        x.set(6, 9);
+        x.server(0, 1, 8, 1);
+        x.server(1, 9, 8, 1);
+        x.server(2, 1, 8, 1);
+        x.damage(0, true);
+        x.arrive(0, 0, 0, 1, 0);
+        x.advance(1);
+        x.route(0, 1);
+        x.arrive(0, 0, 0, 1, 0);
+        x.route(0, 7);
+        x.advance(1);
+        c.due("an attempt that is made again is made at home", x.about(1, 0), 2);
+        c.due("its second", x.about(1, 1), 2);
+    }
+
+    private void homeFromTheQueue() {
+        RelayDesk x = Checks.desk(4);
+        x.set(6, 9);
+        x.server(2, 1, 8, 1);
+        x.arrive(0, 0, 0, 1, 0);
+        x.advance(1);
+        x.route(0, 2);
+        x.arrive(0, 0, 0, 1, 0);
+        x.advance(1);
+        x.server(1, 9, 8, 1);
+        x.route(0, 6);
+        x.advance(1);
+        c.due("a queued one goes home", x.about(1, 0), 2);
     }
 
     private void choosingByPolicy() {
@@ -300,6 +346,17 @@ final class SentencesOfRunning {
             c.due("credit of 2", y.at(2, 5), 2000 - credits[k]);
             c.due("not of the route: no credit", y.at(0, 5), 1000);
         }
+        RelayDesk down = Checks.desk(7);
+        for (int s = 0; s < 3; s++) {
+            down.server(s, 3, 8, 1);
+        }
+        down.damage(1, true);
+        down.advance(20);
+        down.arrive(0, 0, 0, 9, 0);
+        int[] left = {997, 1000, 1003};
+        for (int s = 0; s < 3; s++) {
+            c.due("server 1 is not up, credit of " + s, down.at(s, 5), left[s]);
+        }
         RelayDesk z = Checks.desk(1);
         z.server(0, 9, 1, 1);
         z.arrive(0, 0, 0, 9, 0);
@@ -352,35 +409,37 @@ final class SentencesOfRunning {
         }
     }
 
-    /** Every other server has one point; server s alone has as many points as the weight given. */
+    /** Server s has the weight given, the next one weight 1, the others none. */
     private void onlyItsPoints(int s, int weight) {
-        int other = (s + 1) % 6;
-        RelayDesk x = Checks.desk(1 << s | 1 << other);
+        int[] weights = new int[6];
+        weights[s] = weight;
+        weights[(s + 1) % 6] = 1;
+        RelayDesk x = Checks.desk(63);
         x.set(0, 2);
         x.server(s, weight, 8, 1);
-        x.server(other, 1, 8, 1);
+        x.server((s + 1) % 6, 1, 8, 1);
         for (int j = 0; j < 9; j++) {
             int key = (s * 37 + j * 101 + 17) * 59 % 256;
             int request = x.arrive(0, 0, key, 1, 0);
             c.due("server " + s + ", weight " + weight + ", key " + key, x.about(request, 0),
-                firstFrom(key, s, weight, other));
+                firstFrom(key, weights));
             x.advance(1);
         }
     }
 
-    /** Goes up from the key step by step till a point of server s, of the weight given, or of another of weight 1. */
-    private static int firstFrom(int key, int s, int weight, int other) {
-        for (int step = 0; ; step++) {
+    /** Goes up from the key, step by step, till a place where one of the servers has a point. */
+    private static int firstFrom(int key, int... weights) {
+        for (int step = 0; step < 256; step++) {
             int place = key + step < 256 ? key + step : key + step - 256;
-            boolean itsOwn = false;
-            for (int j = 0; j < weight; j++) {
-                itsOwn |= (s * 37 + j * 101 + 17) * 59 % 256 == place;
-            }
-            boolean theOthers = (other * 37 + 17) * 59 % 256 == place;
-            if (itsOwn || theOthers) {
-                return itsOwn && theOthers ? Math.min(s, other) : itsOwn ? s : other;
+            for (int s = 0; s < 6; s++) {
+                for (int j = 0; j < weights[s]; j++) {
+                    if ((s * 37 + j * 101 + 17) * 59 % 256 == place) {
+                        return s;
+                    }
+                }
             }
         }
+        return -1;
     }
 
     private void aroundTheRing() {
@@ -422,6 +481,26 @@ final class SentencesOfRunning {
         shared.arrive(0, 0, 7, 9, 0);
         c.due("of several there the least server", shared.about(0, 0), 0);
         c.due("the least one is not ready", shared.about(1, 0), 4);
+        everyKey(9, 9, 9, 9, 9, 9);
+        everyKey(1, 2, 3, 4, 5, 6);
+        everyKey(6, 5, 4, 3, 2, 1);
+        everyKey(0, 9, 0, 0, 1, 2);
+    }
+
+    private void everyKey(int... weights) {
+        RelayDesk x = null;
+        for (int key = 0; key < 256; key++) {
+            if (key % 64 == 0) {
+                x = Checks.desk(63);
+                x.set(0, 2);
+                for (int s = 0; s < 6; s++) {
+                    x.server(s, weights[s], 8, 1);
+                }
+            }
+            x.arrive(key % 6, 0, key, 1, 0);
+            c.due("key " + key, x.about(key % 64, 0), firstFrom(key, weights));
+            x.advance(1);
+        }
     }
 
     private void attemptRuns() {
@@ -466,6 +545,17 @@ final class SentencesOfRunning {
         y.damage(0, true);
         y.advance(1);
         c.due("broken just before the end", y.state(1), 3);
+        RelayDesk z = Checks.desk(1);
+        z.server(0, 1, 8, 1);
+        z.set(4, 1);
+        z.arrive(0, 0, 0, 5, 0);
+        z.damage(0, true);
+        z.advance(4);
+        z.damage(0, false);
+        c.due("not up", z.at(0, 1), 0);
+        z.advance(1);
+        c.due("not up when it ends, but not broken either", z.state(0), 2);
+        c.due("not up yet", z.at(0, 1), 0);
     }
 
     private void success() {
@@ -536,6 +626,29 @@ final class SentencesOfRunning {
         c.due("till 15, at 14", x.at(0, 2), 1);
         x.advance(1);
         c.due("till 15, at 15", x.at(0, 2), 2);
+        RelayDesk y = shutDesk();
+        y.advance(4);
+        y.set(3, 1000);
+        y.arrive(0, 0, 0, 1, 0);
+        y.advance(1);
+        c.due("a longer REST: till 1006", y.at(0, 2), 1);
+        y.advance(999);
+        c.due("a longer REST: till 1006, at 1005", y.at(0, 2), 1);
+        y.advance(1);
+        c.due("a longer REST: till 1006, at 1006", y.at(0, 2), 2);
+        RelayDesk z = Checks.desk(1);
+        z.server(0, 1, 8, 1);
+        z.set(3, 1000);
+        z.damage(0, true);
+        for (int k = 0; k < 4; k++) {
+            z.arrive(0, 0, 0, k < 3 ? 1 : 5, 0);
+        }
+        z.advance(4);
+        z.set(3, 2);
+        z.advance(1);
+        c.due("a shorter REST: till 7, at 5", z.at(0, 2), 1);
+        z.advance(2);
+        c.due("a shorter REST: till 7, at 7", z.at(0, 2), 2);
     }
 
     private void retry() {
@@ -571,6 +684,27 @@ final class SentencesOfRunning {
         z.unroute(0);
         z.advance(2);
         c.due("its route was taken away", z.state(0), 3);
+        RelayDesk late = Checks.desk(3);
+        late.set(1, 4);
+        late.set(2, 1);
+        late.set(5, 2);
+        late.server(0, 1, 8, 1);
+        late.server(1, 1, 8, 1);
+        late.arrive(0, 0, 0, 5, 0);
+        late.advance(4);
+        c.due("made again, though it came longer ago than WAIT", late.about(0, 1), 2);
+        c.due("failed after TIMEOUT units more", late.advance(3), 0);
+        c.due("failed after TIMEOUT units more", late.advance(1), 1);
+        RelayDesk four = Checks.desk(15);
+        four.set(1, 4);
+        four.set(2, 3);
+        for (int s = 0; s < 4; s++) {
+            four.server(s, 1, 8, 1);
+        }
+        four.arrive(0, 0, 0, 5, 0);
+        four.advance(15);
+        c.due("each attempt has TIMEOUT units of its own", four.about(0, 1), 4);
+        c.due("each attempt has TIMEOUT units of its own", four.advance(1), 1);
     }
 
     private void timeGrows() {
@@ -650,6 +784,22 @@ final class SentencesOfRunning {
         y.damage(0, true);
         y.advance(1);
         c.due("what is between two checks does not count", y.at(0, 1), 0);
+        RelayDesk z = shutDesk();
+        z.damage(0, false);
+        z.set(4, 1);
+        z.advance(3);
+        c.due("a check leaves the breaker", z.at(0, 2), 1);
+        c.due("a check leaves the failures", z.at(0, 3), 3);
+        RelayDesk later = Checks.desk(3);
+        later.server(0, 1, 8, 1);
+        later.server(1, 1, 8, 1);
+        later.damage(1, true);
+        later.advance(15);
+        later.damage(0, true);
+        later.arrive(0, 0, 0, 5, 0);
+        later.advance(5);
+        c.due("attempts that end then end before the check", later.about(0, 0), 1);
+        c.due("and the check is made", later.at(1, 1), 0);
     }
 
     private void firstCheck() {
@@ -698,6 +848,18 @@ final class SentencesOfRunning {
         z.advance(4);
         c.due("a running one is not", z.state(0), 2);
         c.due("before a server that is ready is looked for", z.state(1), 4);
+        RelayDesk mixed = Checks.desk(1);
+        mixed.set(5, 4);
+        int[] ranks = {3, 1, 2, 0, 2, 1};
+        for (int k = 0; k < 6; k++) {
+            mixed.arrive(0, 0, 0, 4, ranks[k]);
+            mixed.advance(k == 1 ? 1 : 0);
+        }
+        c.due("the first and the fourth of the queue", mixed.advance(3), 2);
+        int[] left = {2, 4, 5, 3, -1};
+        for (int k = 0; k < 5; k++) {
+            c.due("the others keep their order, place " + k, mixed.queued(k), left[k]);
+        }
         RelayDesk all = Checks.desk(1);
         all.set(5, 4);
         for (int k = 0; k < 8; k++) {
